@@ -1,6 +1,6 @@
 import java.util.Arrays;
 
-/** A boat as long as three CELLS that is to be turned in a cut with a bay. ../shared/DOC.md says what each call answers. */
+/** A boat as long as three CELLS, to be turned in a cut with a bay: ../shared/DOC.md says what each call answers. */
 public final class WideTurn {
     public static final int NONE = -1000000, BAD = -1000001, STATE = -1000002, FULL = -1000003;
 
@@ -442,7 +442,7 @@ public final class WideTurn {
 
     // ---- trials: what FORETOLD tries is tried on a BASIN of its own, so that nothing changes
 
-    /** The first CELL by whose digging (or without whose moored one) it is TURNED in fewest MINUTES, or those MINUTES. */
+    /** The first CELL that dug (or without its moored one) lets it be TURNED in fewest MINUTES, or those MINUTES. */
     private int easiestCell(boolean digging, int what) {
         int best = NONE;
         int fewest = NONE;
@@ -933,7 +933,7 @@ public final class WideTurn {
             return laden == 0 && wind > 0;
         }
 
-        /** DEPTH where a boat so laid has the least, below 0 where it has no such place: it FITS by no more than that. */
+        /** The least DEPTH under a boat so laid, by no more than which it FITS; below 0 where there is no such place. */
         int shallowest(int where, int heading) {
             return Math.min(clearance(where),
                     Math.min(clearance(beside(where, heading)), clearance(beside(where, heading + HALF))));
@@ -1126,7 +1126,7 @@ public final class WideTurn {
             }
         }
 
-        /** Of the HANDS that make a MOVE only the first of the fastest counts; those who lift stand apart, as they FIT elsewhere. */
+        /** For a MOVE only the first of the fastest HANDS counts; those who lift stand apart, as they FIT elsewhere. */
         private void choosePacers(Basin basin) {
             Arrays.fill(paces, NONE);
             for (int n = 0; n < basin.hands; n++) {
@@ -1190,24 +1190,35 @@ public final class WideTurn {
 
         private void add(int state, int total, int code) {
             int slot = total % SLOTS;
-            int head = at(heads, slot);
-            put(minutes, state, total);
-            put(first, state, code);
-            put(after, state, head);
-            put(before, state, LAST);
-            put(before, head, state);
-            put(heads, slot, state);
+            if (state < 0 || state >= STATES || slot < 0) {
+                return;
+            }
+            int head = heads[slot];
+            minutes[state] = total;
+            first[state] = code;
+            after[state] = head;
+            before[state] = LAST;
+            if (head >= 0 && head < STATES) {
+                before[head] = state;
+            }
+            heads[slot] = state;
             waiting++;
         }
 
         private void remove(int state) {
-            int ahead = at(before, state);
-            int behind = at(after, state);
-            if (ahead == LAST) {
-                put(heads, at(minutes, state) % SLOTS, behind);
+            if (state < 0 || state >= STATES || minutes[state] < 0) {
+                return;
             }
-            put(after, ahead, behind);
-            put(before, behind, ahead);
+            int ahead = before[state];
+            int behind = after[state];
+            if (ahead >= 0 && ahead < STATES) {
+                after[ahead] = behind;
+            } else {
+                heads[minutes[state] % SLOTS] = behind;
+            }
+            if (behind >= 0 && behind < STATES) {
+                before[behind] = ahead;
+            }
             waiting--;
         }
     }
