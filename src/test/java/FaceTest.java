@@ -49,6 +49,8 @@ public final class FaceTest {
             if (!Modifier.isPrivate(method.getModifiers()) && !method.isSynthetic()) {
                 found.add(told(method));
                 check.that(method + " is public alone", method.getModifiers() == Modifier.PUBLIC);
+            } else {
+                check.that(method + " has no name of the face", !facesHave(method.getName()));
             }
         }
         List<String> due = new ArrayList<>(List.of(METHODS));

@@ -16,6 +16,8 @@ public final class ModelTest {
         int runs = args.length > 0 ? Integer.parseInt(args[0]) : RUNS;
         int from = args.length > 1 ? Integer.parseInt(args[1]) : 1;
         ModelTest test = new ModelTest();
+        test.allTextsOneByteAway("w8,05,3;dabcdefghijabcdefghijabcd;b23,7;m0;m23;s20;p01;");
+        test.allTextsOneByteAway("w0,1,0;djjjjjjjjjjjjjjjjjjjjjjjj;b8,0;m1;m2;m3;m4;r1;h2;l3;s4;");
         for (int run = from; run < from + runs && test.check.wrong() == 0; run++) {
             test.oneRun(run);
         }
@@ -46,6 +48,36 @@ public final class ModelTest {
         if (check.wrong() != 0) {
             System.out.println("run " + run + " by draws:" + told);
         }
+    }
+
+    /** Each byte of a text put, left out or put in between, each byte from 0 to 255 in its place, and each end. */
+    private void allTextsOneByteAway(String text) {
+        for (int place = 0; place <= text.length(); place++) {
+            String ahead = text.substring(0, place);
+            sameReading(ahead);
+            String behind = place < text.length() ? text.substring(place + 1) : "";
+            sameReading(ahead + behind);
+            for (char sign = 0; sign < 256; sign++) {
+                sameReading(ahead + sign + behind);
+                sameReading(ahead + sign + text.substring(place));
+            }
+        }
+    }
+
+    private void sameReading(String text) {
+        WideTurn x = new WideTurn();
+        Model y = new Model();
+        for (int i = 0; i < text.length(); i++) {
+            x.feed(text.charAt(i));
+            y.feed(text.charAt(i));
+        }
+        check.due("'" + text + "'", x.basin(), y.basin());
+        check.due("the FAULT of '" + text + "'", x.fault(), y.fault());
+        for (int what = 0; what < 7; what++) {
+            check.due("count(" + what + ") of '" + text + "'", x.count(what), y.count(what));
+        }
+        check.due("the draught of '" + text + "'", x.boat(2), y.boat(2));
+        check.due("the CELLS of '" + text + "'", x.boat(5), y.boat(5));
     }
 
     private int upTo(int bound) {
