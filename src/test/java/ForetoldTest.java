@@ -244,6 +244,12 @@ public final class ForetoldTest extends Cases {
         x.move(0, 0);
         seen(x, 1, 2, 0);
         seen(x, 2, 4, 0);
+        WideTurn north = withRow("w3,1,0;" + DEEP + "b7,0;h1;", 8);
+        north.move(0, 6);
+        north.move(0, 7);
+        seen(north, 1, 0, NONE);
+        north.set(0, 0, 2);
+        seen(north, 1, 1, 6);
         WideTurn laden = withRow(text, 8, 8, 8, 8);
         laden.laden(1);
         seen(laden, 4, 16, 0);
@@ -439,6 +445,18 @@ public final class ForetoldTest extends Cases {
         due("laden", x.reach(), bits(8));
         WideTurn y = told("w1,1,0;" + DEEP + "b8,0;s1;");
         due("to the edge", y.reach(), bits(8, 9, 10, 11));
+    }
+
+    @Says("to which MIDDLE can come at all")
+    void reach_whereItIsOnlyUntilItIsBlownItDoesNotCome() {
+        WideTurn x = told("w3,1,0;" + DEEP + "b7,0;h1;");
+        x.move(0, 6);
+        x.move(0, 7);
+        due("from CELL 8 it is blown to CELL 2, and comes back no more", x.reach(), bits(7, 1, 2, 3, 4));
+        WideTurn shallow = told("w3,3,0;" + depths('d', "2c") + "b7,0;h1;");
+        shallow.move(0, 6);
+        shallow.move(0, 7);
+        due("where it is not blown at first", shallow.reach() & bits(7, 8), bits(7, 8));
     }
 
     @Says("to which MIDDLE can come at all")

@@ -564,6 +564,16 @@ public final class TextsTest extends Cases {
         due(x.feed('x'), FULL);
         due(x.count(6), 120);
         due("the run of figures is there as it was", x.basin(), -1000101);
+        refused(TextsTest::withAFullTape, FULL, y -> y.feed('x'));
+        refused(TextsTest::withAFullTape, BAD, y -> y.feed(-1));
+    }
+
+    private static WideTurn withAFullTape() {
+        WideTurn x = told(OPEN + "s1;");
+        for (int n = 1; n <= 120; n++) {
+            x.feed('w');
+        }
+        return x;
     }
 
     // ---- 7: basin

@@ -150,6 +150,16 @@ public final class TurnedTest extends Cases {
         way(x, 8, 4, NONE, NONE);
     }
 
+    @Says("(behind what is blown);")
+    void way_isNotToWhereItIsOnlyUntilItIsBlown() {
+        WideTurn x = told("w3,1,0;" + DEEP + "b7,0;h1;");
+        x.move(0, 6);
+        x.move(0, 7);
+        way(x, 8, 0, NONE, NONE);
+        way(x, 2, 0, 1, 6);
+        way(x, 7, 0, 0, NONE);
+    }
+
     @Says("the first MOVE (10 times the HAND, and the MOVE), of several the first; NONE.")
     void way_ofSeveralFirstMovesTheFirst() {
         way(told(OPEN + "s1;"), 8, 4, 4, 0);
@@ -386,6 +396,16 @@ public final class TurnedTest extends Cases {
         due("a shover", told(text + "h1;").inches(), 2);
     }
 
+    @Says("a draught (each, 0 at least)")
+    void inches_theWindTakesOneOfLessDraughtFarther() {
+        // by 1 less it is blown to CELL 9, past CELL 16 of DEPTH 1, and can not lie in CELL 10; by 2 less it can
+        String text = "w1,2,0;" + depths('j', "13b", "16b", "10a") + "b8,0;s1;";
+        due(told(text).inches(), 2);
+        WideTurn laden = told(text);
+        laden.laden(1);
+        due("laden it is not blown", laden.inches(), 1);
+    }
+
     @Says("INCHES; NONE.")
     void p19_noneWhereLessDraughtDoesNotHelp() {
         due(told(OPEN).inches(), NONE);
@@ -438,6 +458,18 @@ public final class TurnedTest extends Cases {
         due("that CELL is moored on yet", x.inTheWay(0) + x.count(4), 3 + bits(3));
         x.moor(3, 0);
         due("so many MINUTES", x.turned(0), 28);
+    }
+
+    @Says("IN THE WAY: the CELL (what = 0), MINUTES then (1)")
+    void p20_isByTheDraughtItHasNowAndBlownAsTold() {
+        WideTurn x = told("w0,1,1;" + depths('c', "13b") + "b8,0;m3;s1;");
+        due("not laden", x.inTheWay(0), 3);
+        x.laden(1);
+        due("laden", x.inTheWay(0), NONE);
+        WideTurn y = told("w1,1,0;" + depths('b', "10a") + "b8,0;m3;s1;");
+        due("blown", y.inTheWay(0), NONE);
+        y.laden(1);
+        due("not blown", y.inTheWay(1), 4);
     }
 
     @Says("BAD")
@@ -502,6 +534,17 @@ public final class TurnedTest extends Cases {
         WideTurn x = told("w0,1,0;" + depths('b', "13a") + "b8,0;s1;");
         due("its DEPTH stays", x.dig(0) + x.cell(13, 0), 13);
         due("it is not TURNED yet", x.turned(0), NONE);
+    }
+
+    @Says("DIG: the CELL (what = 0), MINUTES then (1)")
+    void p21_isByTheDraughtItHasNowAndBlownAsTold() {
+        WideTurn x = told("w0,1,1;" + depths('c', "13b", "15b") + "b8,0;s1;");
+        due("not laden", x.dig(0), 0);
+        x.laden(1);
+        due("laden", x.dig(0), NONE);
+        WideTurn y = told("w1,1,0;" + depths('b', "10a") + "b8,0;s1;");
+        due("blown, where it has room then", y.dig(0), 10);
+        due(y.dig(1), 4);
     }
 
     @Says("BAD")
