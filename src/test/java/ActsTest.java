@@ -647,6 +647,17 @@ public final class ActsTest extends Cases {
         place(x, 9, 0);
     }
 
+    @Says("A MOVE: MINUTES.")
+    void p10_aMoveCanBeUndoneAndNothingElseIsUndoneSo() {
+        WideTurn x = told(LAW + depths('i') + "b8,0;m0;h1;");
+        x.silt();
+        x.move(0, 6);
+        due("ACTS", x.count(5), 2);
+        due(x.undo(), 1);
+        place(x, 8, 0);
+        due("DEPTH", x.cell(0, 0) + x.cell(23, 0), 14);
+    }
+
     @Says("BAD (MOVE 0 to 7);")
     void p10_movesBelow0OrAbove7AreBad() {
         for (int hand = 0; hand < 3; hand++) {
@@ -751,6 +762,21 @@ public final class ActsTest extends Cases {
         }
     }
 
+    @Says("The boat is laden (1), or not (0)")
+    void p11_ladingCanBeUndoneAndNothingElseIsUndoneSo() {
+        WideTurn x = told("w0,2,1;" + DEEP + "b8,0;s1;");
+        x.move(0, 0);
+        x.laden(1);
+        x.laden(0);
+        due("ACTS", x.count(5), 3);
+        due(x.undo(), 2);
+        due("draught", x.boat(2), 3);
+        due(x.undo(), 1);
+        due("draught", x.boat(2), 2);
+        place(x, 8, 1);
+        due("DEPTH", x.cell(0, 0) + x.cell(23, 0), 18);
+    }
+
     @Says("The boat is laden (1)")
     void p11_alsoWhereItDoesNotFitThen() {
         WideTurn x = told("w0,2,3;" + depths('c') + "b8,0;");
@@ -810,6 +836,21 @@ public final class ActsTest extends Cases {
         due(x.moor(23, 0), 1);
         due(x.moor(18, 0), 0);
         due(x.count(4), 0);
+    }
+
+    @Says("A CELL is moored on (1), or not (0)")
+    void p12_mooringCanBeUndoneAndNothingElseIsUndoneSo() {
+        WideTurn x = told(OPEN + "m5;s1;");
+        x.move(0, 0);
+        x.moor(0, 1);
+        x.moor(5, 0);
+        due("ACTS", x.count(5), 3);
+        due(x.undo(), 2);
+        due("moored", x.count(4), bits(0, 5));
+        due(x.undo(), 1);
+        due("moored", x.count(4), bits(5));
+        place(x, 8, 1);
+        due("DEPTH", x.cell(0, 0) + x.cell(23, 0), 18);
     }
 
     @Says("BAD")
@@ -921,6 +962,20 @@ public final class ActsTest extends Cases {
         due(x.silt(), 0);
     }
 
+    @Says("Silt")
+    void p13_siltCanBeUndoneAndNothingElseIsUndoneSo() {
+        WideTurn x = told(OPEN + "s1;");
+        x.move(0, 0);
+        x.silt();
+        x.silt();
+        due("ACTS", x.count(5), 3);
+        due("DEPTH", x.cell(0, 0) + x.cell(23, 0), 14);
+        due(x.undo(), 2);
+        due("DEPTH", x.cell(0, 0) + x.cell(23, 0), 16);
+        place(x, 8, 1);
+        due("MOVES", x.boat(3), 1);
+    }
+
     @Says("whether the boat FITS yet (1, 0)")
     void p13_moreThanDepthMayBeWhyItDoesNot() {
         due(told(OPEN + "m9;").silt(), 0);
@@ -949,6 +1004,26 @@ public final class ActsTest extends Cases {
         due("whether it FITS", x.boat(4), 1);
         due("its CELLS", x.boat(5), bits(8, 9, 10));
         due("whether it FITS", told("w0,3,0;" + depths('c') + "b8,0;").boat(4), 0);
+    }
+
+    @Says("4 whether it FITS (1, 0), 5 its CELLS (bits; those that are there).")
+    void p14_isOfTheBoatAsItIsNow() {
+        WideTurn x = told("w0,2,1;" + depths('d', "13c") + "b8,0;h1;s1;");
+        due("whether it FITS", x.boat(4), 1);
+        x.move(1, 0);
+        due("its CELLS", x.boat(5), bits(3, 8, 13));
+        due("whether it FITS", x.boat(4), 1);
+        x.laden(1);
+        due("whether it FITS laden", x.boat(4), 0);
+        x.move(1, 1);
+        due("its CELLS", x.boat(5), bits(7, 8, 9));
+        due("whether it FITS", x.boat(4), 1);
+        x.silt();
+        due("whether it FITS in silt", x.boat(4), 0);
+        x.days(60, 7, 0);
+        due("whether it FITS in silt", x.boat(4), 0);
+        x.undo();
+        due("whether it FITS in none", x.boat(4), 1);
     }
 
     @Says("5 its CELLS (bits; those that are there).")
@@ -1045,6 +1120,19 @@ public final class ActsTest extends Cases {
                 due("HAND " + hand + ", MOVE " + m, x.hand(hand, m), takes[hand][m]);
             }
         }
+    }
+
+    @Says("MINUTES a HAND takes for a MOVE")
+    void p16_ofTheHandsOfThisBasinAlsoBehindAFault() {
+        WideTurn x = told(OPEN + "s7;");
+        tell(x, OPEN + "p3;p4;p5;x");
+        due(x.hand(0, 0), 7);
+        due(x.hand(0, 2), NONE);
+        due(x.hand(1, 0), BAD);
+        due(x.move(0, 2), STATE);
+        due(x.move(1, 0), BAD);
+        tell(x, OPEN + "p3;");
+        due(x.hand(0, 2), 3);
     }
 
     @Says("MINUTES a HAND takes for a MOVE")

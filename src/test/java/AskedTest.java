@@ -61,6 +61,18 @@ public final class AskedTest extends Cases {
         ask(asked("h1;s7;"), 1, 0, 7 + 1 + 3, 11, 10, 21, 20);
     }
 
+    @Says("and MARK")
+    void asks_11IsByTheTurnItHasNow() {
+        WideTurn x = asked("s7;p9;");
+        x.move(0, 0);
+        ask(x, 0, 0, 7 + 4, 11, 10, 21, 20);
+        ask(x, 1, 0, -(9 + 2 * (1 + 4)), 12, 11, 10, 24, 21, 20);
+        x.days(60, 7, 0);
+        ask(x, 0, 0, 7 + 4, 11, 10, 21, 20);
+        x.undo();
+        ask(x, 0, 0, 7 + 3, 11, 10, 21, 20);
+    }
+
     @Says("12 of POLERS: 0 less what 11 gives.")
     void asks_12Is0LessWhat11Gives() {
         ask(asked("p7;"), 0, 0, -(7 + 2 * 3), 12, 11, 10, 24, 21, 20);
@@ -153,6 +165,15 @@ public final class AskedTest extends Cases {
         due(asked("l1;").kind(0), 5);
     }
 
+    @Says("The KIND of a HAND, as told (1 to 5).")
+    void p31_ofTheHandsOfThisBasinAlsoBehindAFault() {
+        WideTurn x = asked("s7;h7;");
+        tell(x, OPEN + "l1;r2;p3;x");
+        due(x.kind(0), 1);
+        due(x.kind(1), 4);
+        due(x.kind(2), BAD);
+    }
+
     @Says("BAD.")
     void p31_handsThatAreNotThereAreBad() {
         takes(0, 3, one -> asked("s1;s1;s1;s1;").kind(one));
@@ -181,6 +202,17 @@ public final class AskedTest extends Cases {
             }
             due("its KIND", x.kind(one), one == 3 ? 5 : one + 1);
         }
+    }
+
+    @Says("A HAND is taken as one of a KIND (0 .. 5)")
+    void p32_ofTheHandsOfThisBasinAlsoBehindAFault() {
+        WideTurn x = asked("s7;h7;");
+        tell(x, OPEN + "l1;r2;p3;x");
+        due(x.as(0, 1), 0);
+        due(x.as(0, 4), KIND);
+        due(x.as(1, 4), 1);
+        due(x.as(1, 3), KIND);
+        due(x.as(2, 0), BAD);
     }
 
     @Says("BAD")
@@ -225,6 +257,17 @@ public final class AskedTest extends Cases {
         WideTurn x = asked("s7;");
         due(x.ask(0, 0), 10);
         due(x.ask(0, 1), 3);
+    }
+
+    @Says("An ASK (0, 1) of a HAND.")
+    void p33_ofTheHandsOfThisBasinAsItIsNowAlsoBehindAFault() {
+        WideTurn x = asked("s7;h7;");
+        x.move(0, 0);
+        tell(x, LAW + DEEP + "b8,7;l1;r2;p3;x");
+        ask(x, 0, 0, 7 + 4, 11, 10, 21, 20);
+        ask(x, 0, 1, 4, 21, 20);
+        ask(x, 1, 0, -93, 13, 10);
+        due(x.ask(2, 0), BAD);
     }
 
     @Says("BAD.")

@@ -212,7 +212,7 @@ abstract class Cases {
         }
     }
 
-    /** All that can be asked of an object but its STATUS, in fewer than 400 calls; it is of no use any more then. */
+    /** All that can be asked of an object but its STATUS, in fewer than 450 calls; it is of no use any more then. */
     private static List<Long> all(WideTurn x) {
         List<Long> all = new ArrayList<>();
         for (int what = 0; what < 7; what++) {
@@ -223,12 +223,7 @@ abstract class Cases {
         }
         all.add((long) x.fault());
         addBasin(all, x);
-        for (int hand = 0; hand < 4; hand++) {
-            all.add((long) x.kind(hand));
-            for (int m = 0; m < 8; m++) {
-                all.add((long) x.hand(hand, m));
-            }
-        }
+        addHands(all, x);
         addRows(all, x);
         addWhatWas(all, x);
         addTape(all, x);
@@ -244,6 +239,23 @@ abstract class Cases {
         }
         all.add((long) x.count(4));
         all.add((long) x.turned(0));
+    }
+
+    private static void addHands(List<Long> all, WideTurn x) {
+        for (int hand = 0; hand < 4; hand++) {
+            all.add((long) x.kind(hand));
+            all.add((long) x.as(hand, 1));
+            all.add((long) x.ask(hand, 0));
+            all.add((long) x.ask(hand, 1));
+            for (int m = 0; m < 8; m++) {
+                all.add((long) x.hand(hand, m));
+            }
+            int took = x.move(hand, hand == 3 ? 6 : 0);
+            all.add((long) took);
+            if (took > 0) {
+                x.undo();
+            }
+        }
     }
 
     private static void addRows(List<Long> all, WideTurn x) {

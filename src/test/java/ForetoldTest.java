@@ -209,6 +209,18 @@ public final class ForetoldTest extends Cases {
         seen(withRow(OPEN + "h1;s1;s1;s1;", 8), 1, 6, 10);
     }
 
+    @Says("behind each of n MOVES from now on")
+    void seen_eachMoveIsMadeFromWhereTheOneAheadLed() {
+        WideTurn x = withRow(OPEN + "h1;", 9, 10, 11);
+        seen(x, 1, 1, 6);
+        seen(x, 2, 1, 6);
+        seen(x, 3, 0, NONE);
+        WideTurn west = withRow(LAW + DEEP + "b7,0;h1;", 8, 7, 8, 7);
+        seen(west, 4, 1, 6);
+        WideTurn round = withRow(LAW + DEEP + "b2,0;s1;h1;", 1, 2, 3, 4);
+        seen(round, 4, 1, 17);
+    }
+
     @Says("in how many ways it can be; the first one's first MOVE")
     void seen_byTheLastMoveOfTheFourthHand() {
         seen(withRow(OPEN + "s1;s1;s1;h1;", 7), 1, 1, 37);
@@ -426,6 +438,8 @@ public final class ForetoldTest extends Cases {
         due(told(LAW + DEEP + "b2,2;h20;").reach(), bits(2, 8, 14));
         due(told(OPEN + "m11;h1;").reach(), bits(7, 8, 9));
         due("lifters", told("w0,3,0;" + depths('d', "10c") + "b8,0;l1;").reach(), bits(7, 8, 9, 10));
+        due("lifters back", told("w0,3,0;" + depths('d', "6c") + "b8,0;l1;").reach(), bits(7, 8, 9, 10));
+        due("lifters no farther", told("w0,3,0;" + depths('d', "6b", "10c") + "b8,0;l1;").reach(), bits(8, 9, 10));
         due("no lifters", told("w0,3,0;" + depths('d', "10c") + "b8,0;h1;").reach(), bits(7, 8));
     }
 
@@ -557,6 +571,26 @@ public final class ForetoldTest extends Cases {
             due("of " + n, x.days(n, 1, 1), n == 0 ? 0 : n < 8 ? 1 : 2);
         }
         due("beyond the west", told(LAW + DEEP + "b7,0;h1;").days(1, 1, 1), 0);
+    }
+
+    @Says("makes the MOVE that is the rest of X by 8, if it can; behind n")
+    void days_eachMoveIsMadeFromWhereTheOneAheadLed() {
+        WideTurn x = told(OPEN + "h1;");
+        for (int seed = 1; seed <= 40; seed++) {
+            int cell = 8;
+            int made = 0;
+            for (int day = 1; day <= 60; day++) {
+                long m = drawn(seed, day) % 8;
+                int then = m == 6 ? cell + 1 : m == 7 ? cell - 1 : cell;
+                boolean can = then != cell && then >= 7 && then <= 10;
+                cell = can ? then : cell;
+                made += can ? 1 : 0;
+                if (day % 15 == 0) {
+                    due("where behind " + day + " by " + seed, x.days(day, seed, 0), 10 * cell);
+                    due("how many of " + day + " by " + seed, x.days(day, seed, 1), made);
+                }
+            }
+        }
     }
 
     @Says("behind n: 10 times MIDDLE, and TURN; how many were made.")

@@ -341,13 +341,15 @@ public final class RowsTest extends Cases {
 
     @Says("as they were ahead: n.")
     void p04_withinOneRowTheyComeAsTheyWereAhead() {
-        WideTurn x = filled(1);
-        due(x.copy(0, 0, 0, 1, 3), 3);
-        itemsAre(x, 0, 0, 0, 10, 20);
-        due(x.copy(0, 1, 0, 0, 3), 3);
-        itemsAre(x, 0, 0, 10, 20, 20);
-        due(x.copy(0, 0, 0, 0, 4), 4);
-        itemsAre(x, 0, 0, 10, 20, 20);
+        for (int lane = 0; lane < 3; lane++) {
+            WideTurn x = filled(lane);
+            due(x.copy(0, 0, 0, 1, 3), 3);
+            itemsAre(x, 0, 0, 0, 10, 20);
+            due(x.copy(0, 1, 0, 0, 3), 3);
+            itemsAre(x, 0, 0, 10, 20, 20);
+            due(x.copy(0, 0, 0, 0, 4), 4);
+            itemsAre(x, 0, 0, 10, 20, 20);
+        }
     }
 
     @Says("as they were ahead")

@@ -9,7 +9,7 @@ public final class SaysTest {
     private static final Path DOCUMENT = Path.of("../shared/DOC.md");
     private static final int PROMISES = 36;
     private static final Class<?>[] CASES = {TermsTest.class, RowsTest.class, TextsTest.class, ActsTest.class,
-        TurnedTest.class, ForetoldTest.class, AskedTest.class};
+        TurnedTest.class, ForetoldTest.class, AskedTest.class, TwoWaysTest.class};
 
     private final Check check = new Check("says");
     private final String document;

@@ -587,6 +587,22 @@ public final class TextsTest extends Cases {
     }
 
     @Says("The tape, empty then, is read")
+    void p07_whatIsReadStandsAndNoActCanBeUndone() {
+        WideTurn x = told(OPEN + "s1;");
+        x.move(0, 0);
+        due(tell(x, "w8,4,3;" + depths('c') + "b14,2;m9;h5;p7;"), 2);
+        place(x, 14, 2);
+        due("draught", x.boat(2), 4);
+        due("DEPTH", x.cell(0, 0), 2);
+        due("WIND", x.count(2), 8);
+        due("LOAD", x.count(3), 3);
+        due("moored", x.count(4), bits(9));
+        due("ACTS", x.count(5), 0);
+        due("KINDS", 10 * x.kind(0) + x.kind(1), 42);
+        due("MINUTES", 10 * x.hand(0, 6) + x.hand(1, 2), 57);
+    }
+
+    @Says("The tape, empty then, is read")
     void p07_theTapeIsEmptyThen() {
         WideTurn x = new WideTurn();
         due(tell(x, OPEN), 0);

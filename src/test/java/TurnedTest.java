@@ -160,6 +160,30 @@ public final class TurnedTest extends Cases {
         way(x, 7, 0, 0, NONE);
     }
 
+    @Says("(behind what is blown);")
+    void way_isBlownBehindEachThird() {
+        WideTurn x = told("w1,1,0;" + DEEP + "b7,0;s1;");
+        way(x, 7, 2, 2, 0);
+        way(x, 7, 3, NONE, NONE);
+        way(x, 8, 3, 3, 0);
+        way(x, 8, 0, 4, 0);
+        way(x, 8, 5, 3, 1);
+        way(x, 9, 0, 6, 0);
+        way(x, 9, 1, 7, 0);
+        way(x, 9, 3, 7, 0);
+        way(x, 10, 1, 9, 0);
+        way(x, 10, 0, 10, 0);
+        way(x, 11, 0, NONE, NONE);
+    }
+
+    @Says("of several the first; NONE.")
+    void way_ofSeveralFirstMovesTheFirstAlsoByMoreMoves() {
+        // swung about the bow in 3 MINUTES, or shoved ahead, swung, shoved back in 3
+        way(told(OPEN + "h1;s1;r6;"), 14, 1, 3, 6);
+        way(told(OPEN + "r6;h1;s1;"), 14, 1, 3, 4);
+        way(told(OPEN + "s1;r6;h1;"), 14, 1, 3, 14);
+    }
+
     @Says("the first MOVE (10 times the HAND, and the MOVE), of several the first; NONE.")
     void way_ofSeveralFirstMovesTheFirst() {
         way(told(OPEN + "s1;"), 8, 4, 4, 0);
@@ -219,6 +243,25 @@ public final class TurnedTest extends Cases {
         way(z, 9, 0, 5, 6);
         way(z, 10, 0, 10, 6);
         way(z, 11, 0, NONE, NONE);
+    }
+
+    @Says("WAY: MINUTES (what = 0)")
+    void p17_liftersAndShoversEachWhereTheyCan() {
+        WideTurn back = told("w0,3,0;" + depths('d', "6c") + "b8,0;l5;");
+        way(back, 7, 0, 5, 7);
+        way(back, 9, 0, 5, 6);
+        WideTurn slow = told("w0,3,0;" + depths('d', "6c", "10c") + "b8,0;h2;l5;");
+        way(slow, 7, 0, 5, 17);
+        way(slow, 9, 0, 5, 16);
+        way(slow, 10, 0, 10, 16);
+        WideTurn fast = told("w0,3,0;" + depths('d', "10c") + "b8,0;l2;h5;");
+        way(fast, 7, 0, 2, 7);
+        way(fast, 9, 0, 2, 6);
+        WideTurn behind = told("w0,3,0;" + depths('d', "10c") + "b8,0;l5;h2;");
+        way(behind, 7, 0, 2, 17);
+        way(behind, 9, 0, 5, 6);
+        WideTurn alike = told("w0,3,0;" + DEEP + "b8,0;s1;l2;h2;");
+        way(alike, 7, 0, 2, 17);
     }
 
     @Says("WAY: MINUTES (what = 0)")
@@ -297,6 +340,10 @@ public final class TurnedTest extends Cases {
         turned(OPEN + "s1;", 4, 0);
         turned(OPEN + "s1;s1;", 4, 0);
         turned(OPEN + "h1;s2;s1;s1;", 4, 20);
+        turned(OPEN + "m3;m15;h1;s1;", 5, 7);
+        turned("w1,1,0;" + DEEP + "b7,0;h1;s1;h1;", 4, 10);
+        turned(OPEN + "s2;r4;h1;", 8, 0);
+        turned(OPEN + "r4;s2;h1;", 8, 4);
         turned(OPEN + "m2;m14;s1;", NONE, NONE);
         turned("w0,3,0;" + depths('d', "3c") + "b8,0;s1;", NONE, NONE);
     }
@@ -618,6 +665,16 @@ public final class TurnedTest extends Cases {
         due("not laden, " + text, x.better(), due);
         x.laden(1);
         due("laden, " + text, x.better(), due);
+        WideTurn y = told(text);
+        for (int n = 0; n < 10; n++) {
+            y.silt();
+        }
+        due("in silt, " + text, y.better(), 3);
+        y.years();
+        for (int n = 0; n < 10; n++) {
+            y.undo();
+        }
+        due("in no silt, " + text, y.better(), due);
     }
 
     @Says("LADEN: whether it is TURNED in fewer MINUTES laden (1)")
