@@ -28,16 +28,28 @@ public final class FaceTest {
     private static final String[] FORBIDDEN = {
         "throw", "try", "catch", "finally", "synchronized", "assert", "new Thread", "System\\.(?!arraycopy)",
         "->", "::", "Random", "Exact\\(", "import (?!java\\.util\\.(Arrays|ArrayList|List|Iterator);)",
-        "\\.equals\\(", "hashCode", "toString", "var ", "package ",
+        "\\.equals\\(", "hashCode", "toString", "var ", "package ", "while \\(true", "for \\(;;",
     };
 
+    private static final Path SOURCE = Path.of("src/main/java/WideTurn.java"), DOCUMENT = Path.of("../shared/DOC.md");
+    private static final int LONGEST = 60;
+
     private final Check check = new Check("face");
+    private final String source;
+
+    private FaceTest(String source) {
+        this.source = source;
+    }
 
     public static void main(String[] args) throws IOException {
-        FaceTest test = new FaceTest();
+        FaceTest test = new FaceTest(Files.readString(SOURCE));
         test.theFaceIsTheDocuments();
         test.whatIsInsideIsPrivate();
         test.theSourceKeepsToTheLanguage();
+        test.methodsAreShort();
+        if (Files.exists(DOCUMENT)) {
+            test.theDocumentSaysTheSame(Files.readString(DOCUMENT));
+        }
         test.check.end();
     }
 
@@ -107,8 +119,7 @@ public final class FaceTest {
         return false;
     }
 
-    private void theSourceKeepsToTheLanguage() throws IOException {
-        String source = Files.readString(Path.of("src/main/java/WideTurn.java"));
+    private void theSourceKeepsToTheLanguage() {
         String code = source.replaceAll("(?s)/\\*.*?\\*/", "").replaceAll("//[^\n]*", "");
         for (String word : FORBIDDEN) {
             Matcher matcher = Pattern.compile("(?<![A-Za-z])" + word).matcher(code);
@@ -119,5 +130,45 @@ public final class FaceTest {
                 check.that("sign " + (int) source.charAt(i) + " in the source", false);
             }
         }
+    }
+
+    private void methodsAreShort() {
+        String[] lines = source.split("\n");
+        int start = 0;
+        for (int i = 0; i < lines.length; i++) {
+            if (lines[i].matches(" {4,8}[A-Za-z].*\\) \\{") && !lines[i].matches(" +(if|for|while|switch) .*")) {
+                start = i;
+            }
+            if (lines[i].matches(" {4,8}\\}")) {
+                check.that("that '" + lines[start].trim() + "' is short", i - start <= LONGEST);
+            }
+        }
+    }
+
+    /** The face as it stands in the document, at its head and at each promise, and under which heading each call is. */
+    private void theDocumentSaysTheSame(String document) {
+        Matcher told = Pattern.compile("(?m)^    public (.+\\));$").matcher(document);
+        int calls = 0;
+        while (told.find()) {
+            calls++;
+            String call = told.group(1);
+            check.that("that the face has '" + call + "'", source.contains("\n    public " + call + " {\n"));
+            check.that("that it is promised, '" + call + "'", document.contains("\n`" + call + "`: "));
+        }
+        check.due("calls of the face, with its constructor", calls, METHODS.length + 1);
+        Matcher constants = Pattern.compile("(?m)^    public static final .+;$").matcher(document);
+        check.that("that the constants are as told", constants.find() && source.contains("\n" + constants.group() + "\n"));
+        Matcher heading = Pattern.compile("(?m)^Ahead of the calls (.+) the interface says: (---- .+)\\.$").matcher(document);
+        int headings = 0;
+        while (heading.find()) {
+            headings++;
+            int start = source.indexOf("\n    // " + heading.group(2) + "\n");
+            int end = source.indexOf("\n    // ---- ", start + 1);
+            for (String call : heading.group(1).replaceAll("[` ]", "").split(",")) {
+                int at = source.indexOf(" " + call + "(");
+                check.that("that " + call + " stands under " + heading.group(2), start >= 0 && at > start && at < end);
+            }
+        }
+        check.due("headings", headings, 5);
     }
 }
