@@ -674,6 +674,16 @@ public final class ActsTest extends Cases {
         bad(hand -> new WideTurn().move(hand, 0), 0, -1, 3, 4);
     }
 
+    @Says("A MOVE: MINUTES.")
+    void p10_byTheHandsOfThisBasinAlsoBehindAFault() {
+        WideTurn x = told(OPEN + "s7;");
+        tell(x, LAW + DEEP + "b9,3;p3;p4;x");
+        due(x.move(0, 2), STATE);
+        due(x.move(1, 0), BAD);
+        due(x.move(0, 0), 7);
+        place(x, 8, 1);
+    }
+
     @Says("STATE: the HAND does not make such")
     void p10_aHandThatDoesNotMakeItIsState() {
         WideTurn x = lying(8, 0);

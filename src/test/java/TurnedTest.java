@@ -454,6 +454,16 @@ public final class TurnedTest extends Cases {
     }
 
     @Says("INCHES; NONE.")
+    void p19_fromTheDraughtItHasNowDownToNone() {
+        for (int draught = 1; draught <= 5; draught++) {
+            WideTurn x = told("w0," + draught + ",3;" + depths('a') + "b8,0;s1;");
+            due("not laden, DRAUGHT " + draught, x.inches(), draught);
+            x.laden(1);
+            due("laden, DRAUGHT " + draught, x.inches(), draught <= 2 ? draught + 3 : NONE);
+        }
+    }
+
+    @Says("INCHES; NONE.")
     void p19_noneWhereLessDraughtDoesNotHelp() {
         due(told(OPEN).inches(), NONE);
         due(told(OPEN + "h1;l1;").inches(), NONE);

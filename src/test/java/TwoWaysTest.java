@@ -20,6 +20,11 @@ public final class TwoWaysTest extends Cases {
         "w8,5,0;dfffffffefffffffffffgefff;b15,6;m6;l1;s2;r7;h3;",
         "w2,1,0;dbbbbbbbbbbbbbbbbbbbbbbbb;b13,1;s1;",
         "w4,1,2;djjjjjjjjjjjjjjjjjjjjjjjj;b7,0;m2;s1;h1;",
+        "w3,4,2;daacdcaccccccddddddaacdca;b8,0;m15;s4;p6;h3;",
+        "w0,5,3;dfffcffffffffffffffffffff;b8,0;m15;s2;h3;l3;",
+        "w1,1,0;dbbbbbbbbbbabbbbbbbbbbbbb;b8,0;s1;",
+        "w0,1,0;djjjjjjjjjjjjjjjjjjjjjjjj;b8,0;m3;m15;s1;",
+        "w0,5,0;daaaaaaaaaaaaaaaaaaaaaaaa;b8,0;m20;p1;h1;",
     };
     private static final int PLACES = 24 * 8;
 
@@ -52,6 +57,7 @@ public final class TwoWaysTest extends Cases {
             // what was foretold ahead is to make no difference
             x.days(60, text.length(), 0);
             x.years();
+            x.better();
             return x;
         }
 
@@ -140,18 +146,17 @@ public final class TwoWaysTest extends Cases {
     @Says("INCHES; NONE.")
     void p19_theLeastOfTextsOfLessDraught() {
         for (String text : TEXTS) {
-            int draught = text.charAt(3) - '0';
-            int least = NONE;
-            for (int less = 0; less < draught && least == NONE; less++) {
-                WideTurn y = told(text.substring(0, 3) + (draught - less) + text.substring(4));
-                least = y.turned(0) == NONE ? NONE : less;
-            }
-            int inches = told(text).inches();
-            if (least != NONE) {
-                due("INCHES of " + text, inches, least);
-            } else {
-                // a draught of 0 can not be told
-                due("whether fewer INCHES than the draught of " + text, inches >= 0 && inches < draught ? 1 : 0, 0);
+            for (int laden = 0; laden < 2; laden++) {
+                int draught = text.charAt(3) - '0';
+                int least = NONE;
+                for (int less = 0; less < draught && least == NONE; less++) {
+                    String other = text.substring(0, 3) + (draught - less) + text.substring(4);
+                    least = new Start(other, 0, laden).made().turned(0) == NONE ? NONE : less;
+                }
+                int inches = new Start(text, 0, laden).made().inches();
+                // a DRAUGHT of 0 can not be told: then it is by no fewer INCHES than DRAUGHT
+                boolean told = least != NONE;
+                due("INCHES of " + text + ", " + laden, told || inches < draught ? inches : NONE, least);
             }
         }
     }
